@@ -114,8 +114,10 @@ public final class ExemplifyTest {
         x.exemplify();
         x.learn();
         checks.equal("17: learned from the examples", x.same(), true);
-        x.define(2, true, 1, 2);
-        checks.equal("17: another arrow", x.same(), false);
+        x.define(2, true, 0, 2);
+        checks.equal("17: another arrow for 1", x.same(), false);
+        x.define(2, true, 1, 1);
+        checks.equal("17: another arrow for 0", x.same(), false);
         x.define(3, false, 1, 2);
         x.define(2, true, 3, 1);
         checks.equal("17: an arrow to a state that is not apart from the one before",

@@ -11,11 +11,12 @@ public final class LearnTest {
         oddOnes();
         foldingOnItself();
         failedMergingLeavesNothing();
+        redsInTheirOrder();
         lateNameComesFirst();
         learnedAnew();
         wrongArguments();
         nothingLearned();
-        fullSample();
+        keepsToTheSample();
         checks.end();
     }
 
@@ -93,22 +94,40 @@ public final class LearnTest {
         checks.equal("8: 1 from 1", x.next(1, 1), WordClassLearner.NONE);
     }
 
-    /** A block can turn blue behind an early red one after longer names have become red. */
+    private static void checkStates(WordClassLearner x, int[][] rows) {
+        checks.equal("7: states", x.states(), rows.length);
+        for (int state = 0; state < rows.length; state++) {
+            checks.equal("9: sign " + state, x.sign(state), rows[state][0]);
+            checks.equal("8: next 0 of " + state, x.next(state, 0), rows[state][1]);
+            checks.equal("8: next 1 of " + state, x.next(state, 1), rows[state][2]);
+        }
+    }
+
+    /**
+     * 10 goes with the first state, and so 100 turns blue with the name 0, when 1 is red already;
+     * it becomes red behind 1. Then 1000 could go with it too, but 1 is before it in their order.
+     */
+    private static void redsInTheirOrder() {
+        WordClassLearner x = new WordClassLearner();
+        x.teach(0, 0, false);
+        x.teach(1, 1, true);
+        x.teach(4, 8, true);
+        checks.equal("6: learn", x.learn(), 3);
+        checkStates(x, new int[][] {{-1, 2, 1}, {1, 0, -1}, {0, 1, -1}});
+    }
+
+    /**
+     * 11 goes with the first state, and so 110 gets the name 0 and becomes red behind 1. What
+     * stands behind it, 1101 with the name 01, comes before 1110 with the name 10 behind 1.
+     */
     private static void lateNameComesFirst() {
         WordClassLearner x = new WordClassLearner();
-        Model model = new Model();
-        int[][] words = {{0, 0, 1}, {1, 0, 0}, {2, 0, 0}, {3, 0, 1}, {4, 0, 1}, {5, 1, 0},
-            {6, 2, 1}, {6, 3, 0}, {7, 4, 0}, {8, 9, 1}};
-        for (int[] word : words) {
-            x.teach(word[0], word[1], word[2] == 1);
-            model.teach(word[0], word[1], word[2] == 1);
-        }
-        checks.equal("6: learn", x.learn(), model.learn());
-        for (int state = 0; state < model.states(); state++) {
-            checks.equal("9: sign " + state, x.sign(state), model.sign(state));
-            checks.equal("8: next 0 of " + state, x.next(state, 0), model.next(state, 0));
-            checks.equal("8: next 1 of " + state, x.next(state, 1), model.next(state, 1));
-        }
+        x.teach(0, 0, false);
+        x.teach(3, 6, true);
+        x.teach(4, 13, true);
+        x.teach(5, 29, false);
+        checks.equal("6: learn", x.learn(), 3);
+        checkStates(x, new int[][] {{-1, 2, 1}, {1, 1, 0}, {1, -1, 1}});
     }
 
     private static void learnedAnew() {
@@ -161,20 +180,20 @@ public final class LearnTest {
     }
 
     /** What is learned has the sign that was said for each word of the sample. */
-    private static void fullSample() {
+    private static void keepsToTheSample() {
         WordClassLearner x = new WordClassLearner();
-        long seed = 7;
-        for (int i = 1; i < 500; i++) {
-            int length = 31 - Integer.numberOfLeadingZeros(i);
-            seed = seed * 6364136223846793005L + 1442695040888963407L;
-            x.teach(length, i - (1 << length), seed < 0);
+        Dice dice = new Dice(7);
+        boolean[] good = new boolean[256];
+        for (int word = 1; word < 256; word++) {
+            int length = 31 - Integer.numberOfLeadingZeros(word);
+            good[word] = dice.once(2);
+            x.teach(length, word - (1 << length), good[word]);
         }
-        checks.equal("7: as many states as were learned", x.learn(), x.states());
-        for (int i = 1; i < 500; i++) {
-            int length = 31 - Integer.numberOfLeadingZeros(i);
-            int letters = i - (1 << length);
-            checks.equal("10: accepts " + length + " " + letters,
-                    x.accepts(length, letters), x.told(length, letters) == 1);
+        checks.equal("6: learn answers how many", x.learn(), x.states());
+        for (int word = 1; word < 256; word++) {
+            int length = 31 - Integer.numberOfLeadingZeros(word);
+            checks.equal("10: accepts " + word,
+                    x.accepts(length, word - (1 << length)), good[word]);
         }
     }
 }

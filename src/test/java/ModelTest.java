@@ -1,27 +1,9 @@
 /** All promises: made-up runs of calls, each answered as the document taken word by word does. */
 public final class ModelTest {
-    private static final int RUNS = 200;
-    private static final int CALLS = 512;
+    private static final int RUNS = 400;
+    private static final int MOST_CALLS = 440;
 
     private static final Checks checks = new Checks();
-
-    /** The same numbers in every run of the test. */
-    private static final class Dice {
-        private long seed;
-
-        Dice(long seed) {
-            this.seed = seed;
-        }
-
-        int below(int bound) {
-            seed = seed * 6364136223846793005L + 1442695040888963407L;
-            return (int) ((seed >>> 33) % bound);
-        }
-
-        boolean once(int in) {
-            return below(in) == 0;
-        }
-    }
 
     private final WordClassLearner x = new WordClassLearner();
     private final Model model = new Model();
@@ -29,7 +11,7 @@ public final class ModelTest {
     private final int run;
     private final int longest;
     private final int learnEvery;
-    private int call = 0;
+    private int calls = 0;
 
     private ModelTest(int run) {
         this.run = run;
@@ -46,15 +28,19 @@ public final class ModelTest {
     }
 
     private void play() {
-        for (call = 0; call < CALLS; call++) {
+        while (calls < MOST_CALLS) {
             step();
         }
-        compareAll();
+        compareLearned();
     }
 
     private void due(String what, Checks.Call got, Checks.Call want) {
-        checks.equal("run " + run + " call " + call + ": " + what,
-                Checks.answerOf(got), Checks.answerOf(want));
+        calls++;
+        // An object that is used for more calls may answer anything.
+        if (calls <= 512) {
+            checks.equal("run " + run + " call " + calls + ": " + what,
+                    Checks.answerOf(got), Checks.answerOf(want));
+        }
     }
 
     private void step() {
@@ -135,8 +121,13 @@ public final class ModelTest {
 
     private void exemplify() {
         if (dice.once(4)) {
-            x.forget();
-            model.forget();
+            due("forget", () -> {
+                x.forget();
+                return "";
+            }, () -> {
+                model.forget();
+                return "";
+            });
         }
         due("exemplify", () -> x.exemplify(), () -> model.exemplify());
         if (dice.once(2)) {
@@ -146,7 +137,7 @@ public final class ModelTest {
     }
 
     private void begin() {
-        if (dice.once(5)) {
+        if (dice.once(calls < 40 ? 1 : 5)) {
             int states = dice.once(3) ? dice.below(9) - 1 : 5;
             due("draft " + states, () -> {
                 x.draft(states);
@@ -164,16 +155,8 @@ public final class ModelTest {
         due("same", () -> x.same(), () -> model.same());
     }
 
-    private void compareAll() {
+    private void compareLearned() {
         plain();
-        for (int length = 0; length <= 8; length++) {
-            for (int letters = 0; letters < 1 << length; letters++) {
-                int l = length;
-                int w = letters;
-                due("told", () -> x.told(l, w), () -> model.told(l, w));
-                due("accepts", () -> x.accepts(l, w), () -> model.accepts(l, w));
-            }
-        }
         for (int i = 0; i < 2 * model.states(); i++) {
             int state = i / 2;
             int letter = i % 2;

@@ -38,29 +38,37 @@ public final class SampleTest {
         checks.equal("3: bad", x.told(3, 2), -1);
         checks.equal("3: not told, a beginning", x.told(2, 2), 0);
         checks.equal("3: not told, the same int but longer", x.told(4, 5), 0);
-        checks.equal("3: not told, the same int but shorter", x.told(2, 2), 0);
+        checks.equal("3: not told, the same int but with one letter more", x.told(4, 2), 0);
         checks.equal("4: size", x.size(), 2);
     }
 
+    private static boolean isGood(int length, int letters) {
+        return (letters + length) % 3 == 0;
+    }
+
+    private static void teachUpTo(WordClassLearner x, int longest) {
+        for (int length = 0; length <= longest; length++) {
+            for (int letters = 0; letters < 1 << length; letters++) {
+                checks.equal("2: teach " + length + " " + letters,
+                        x.teach(length, letters, isGood(length, letters)), true);
+            }
+        }
+    }
+
+    /** All words are 511, and an object is used for 512 calls. */
     private static void everyWord() {
         WordClassLearner x = new WordClassLearner();
-        int said = 0;
-        for (int length = 0; length <= 8; length++) {
-            for (int letters = 0; letters < 1 << length; letters++) {
-                boolean good = (letters + length) % 3 == 0;
-                checks.equal("2: teach " + length + " " + letters,
-                        x.teach(length, letters, good), true);
-                said++;
-                checks.equal("4: size", x.size(), said);
-            }
-        }
+        teachUpTo(x, 8);
         checks.equal("4: size of all words", x.size(), 511);
-        for (int length = 0; length <= 8; length++) {
+        WordClassLearner y = new WordClassLearner();
+        teachUpTo(y, 7);
+        for (int length = 0; length <= 7; length++) {
             for (int letters = 0; letters < 1 << length; letters++) {
                 checks.equal("3: told " + length + " " + letters,
-                        x.told(length, letters), (letters + length) % 3 == 0 ? 1 : -1);
+                        y.told(length, letters), isGood(length, letters) ? 1 : -1);
             }
         }
+        checks.equal("4: size of the words up to 7 letters", y.size(), 255);
     }
 
     private static void wrongWords() {
