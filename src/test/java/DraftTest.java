@@ -20,20 +20,13 @@ public final class DraftTest {
         checks.end();
     }
 
-    private static void draw(WordClassLearner x, int[][] rows) {
-        x.draft(rows.length);
-        for (int state = 0; state < rows.length; state++) {
-            x.define(state, rows[state][0] == 1, rows[state][1], rows[state][2]);
-        }
-    }
-
     private static void newDraft() {
         WordClassLearner x = new WordClassLearner();
         for (int states = 1; states <= 5; states++) {
             x.draft(states);
             checks.equal("11: all bad, least of " + states, x.least(), 1);
         }
-        draw(x, new int[][] {{1, 1, 1}, {0, 0, 0}});
+        Drafts.draw(x, Drafts.rows("111 000"));
         checks.equal("13: two states", x.least(), 2);
         x.draft(2);
         checks.equal("11: in place of the one that there is", x.least(), 1);
@@ -44,11 +37,11 @@ public final class DraftTest {
     private static void wrongDrafts() {
         WordClassLearner x = new WordClassLearner();
         for (int states : new int[] {0, -1, 6, Integer.MIN_VALUE, Integer.MAX_VALUE}) {
-            checks.fails("11: draft " + states, ARGUMENT, () -> done(() -> x.draft(states)));
+            checks.fails("11: draft " + states, ARGUMENT, () -> x.draft(states));
         }
         checks.fails("11: no draft yet", STATE, () -> x.least());
-        draw(x, new int[][] {{1, 1, 1}, {0, 0, 0}});
-        checks.fails("11: draft 6", ARGUMENT, () -> done(() -> x.draft(6)));
+        Drafts.draw(x, Drafts.rows("111 000"));
+        checks.fails("11: draft 6", ARGUMENT, () -> x.draft(6));
         checks.equal("11: the draft is as it was", x.least(), 2);
     }
 
@@ -70,16 +63,13 @@ public final class DraftTest {
 
     private static void wrongDefinitions() {
         WordClassLearner x = new WordClassLearner();
-        checks.fails("12: no draft", STATE, () -> done(() -> x.define(0, true, 0, 0)));
-        checks.fails("12: no draft wins", STATE, () -> done(() -> x.define(9, true, 9, 9)));
-        draw(x, new int[][] {{1, 1, 1}, {0, 0, 0}});
+        checks.fails("12: no draft", STATE, () -> x.define(0, true, 0, 0));
+        checks.fails("12: no draft wins", STATE, () -> x.define(9, true, 9, 9));
+        Drafts.draw(x, Drafts.rows("111 000"));
         for (int state : new int[] {-1, 2, 4, Integer.MIN_VALUE, Integer.MAX_VALUE}) {
-            checks.fails("12: state " + state, INDEX,
-                    () -> done(() -> x.define(state, false, 0, 0)));
-            checks.fails("12: zero " + state, INDEX,
-                    () -> done(() -> x.define(0, false, state, 0)));
-            checks.fails("12: one " + state, INDEX,
-                    () -> done(() -> x.define(0, false, 0, state)));
+            checks.fails("12: state " + state, INDEX, () -> x.define(state, false, 0, 0));
+            checks.fails("12: zero " + state, INDEX, () -> x.define(0, false, state, 0));
+            checks.fails("12: one " + state, INDEX, () -> x.define(0, false, 0, state));
         }
         checks.equal("12: the draft is as it was", x.least(), 2);
         x.define(0, false, 1, 1);
@@ -88,10 +78,9 @@ public final class DraftTest {
         checks.equal("12: good", x.least(), 2);
     }
 
-    /** A row of five states, of which the last one alone is good. */
     private static void longestNameAndWord() {
         WordClassLearner x = new WordClassLearner();
-        draw(x, new int[][] {{0, 0, 1}, {0, 0, 2}, {0, 0, 3}, {0, 0, 4}, {1, 4, 4}});
+        Drafts.draw(x, Drafts.ROW);
         checks.equal("13: least", x.least(), 5);
         int[] names = {0, 257, 515, 775, 1039};
         for (int state = 0; state < 5; state++) {
@@ -106,7 +95,7 @@ public final class DraftTest {
 
     private static void unreachableStates() {
         WordClassLearner x = new WordClassLearner();
-        draw(x, new int[][] {{0, 3, 0}, {1, 1, 2}, {0, 2, 1}, {1, 0, 3}, {1, 4, 4}});
+        Drafts.draw(x, Drafts.rows("030 112 021 103 144"));
         checks.equal("13: no word leads to 1, 2 and 4", x.least(), 2);
         checks.equal("14: name", x.name(1), 256);
         checks.fails("14: no third state", INDEX, () -> x.name(2));
@@ -114,7 +103,7 @@ public final class DraftTest {
 
     private static void equalStates() {
         WordClassLearner x = new WordClassLearner();
-        draw(x, new int[][] {{1, 1, 2}, {0, 3, 4}, {0, 4, 3}, {1, 2, 1}, {1, 1, 2}});
+        Drafts.draw(x, Drafts.rows("112 034 043 121 112"));
         checks.equal("13: all good ones and all bad ones", x.least(), 2);
         checks.equal("14: the first state", x.name(0), 0);
         checks.equal("14: the other one", x.name(1), 256);
@@ -123,7 +112,7 @@ public final class DraftTest {
     /** States are numbered as their names come, not as they are drafted. */
     private static void firstOfTheWords() {
         WordClassLearner x = new WordClassLearner();
-        draw(x, new int[][] {{0, 4, 3}, {1, 1, 1}, {0, 1, 1}, {0, 2, 1}, {0, 1, 2}});
+        Drafts.draw(x, Drafts.rows("043 111 011 021 012"));
         checks.equal("13: least", x.least(), 5);
         int[] names = {0, 256, 257, 512, 513};
         for (int state = 0; state < 5; state++) {
@@ -137,7 +126,7 @@ public final class DraftTest {
 
     private static void wrongStates() {
         WordClassLearner x = new WordClassLearner();
-        draw(x, new int[][] {{1, 1, 1}, {0, 0, 0}, {0, 0, 0}});
+        Drafts.draw(x, Drafts.rows("111 000 000"));
         for (int state : new int[] {-1, 2, 5, Integer.MIN_VALUE, Integer.MAX_VALUE}) {
             checks.fails("14: name " + state, INDEX, () -> x.name(state));
             checks.fails("15: apart " + state + " 0", INDEX, () -> x.apart(state, 0));
@@ -154,10 +143,5 @@ public final class DraftTest {
         checks.fails("14: no draft wins", STATE, () -> x.name(-1));
         checks.fails("15: no draft", STATE, () -> x.apart(0, 0));
         checks.fails("15: no draft wins", STATE, () -> x.apart(-1, 7));
-    }
-
-    private static Object done(Runnable call) {
-        call.run();
-        return "done";
     }
 }
